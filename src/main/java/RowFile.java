@@ -443,8 +443,8 @@ public final class RowFile {
                 return;
             }
             length = sizeInLeaf(whole);
-            leaf.copyRecord(cell, bytes, length);
-            int page = leaf.chainStart(cell);
+            leaf.copyRecord(cell, whole, bytes);
+            int page = leaf.chainStart(cell, whole);
             for (int i = 0; i < chainPages(whole); i++) {
                 int part = Math.min(CHAIN_PART, whole - length);
                 pages.copyOut(page, bytes, length, part);
@@ -735,7 +735,7 @@ public final class RowFile {
             return i >= 0 && i < count;
         }
 
-        /** NONE if no varint stands there. */
+        /** Answers NONE if no varint stands there. */
         int recordLength(int i) {
             return hasCell(i) ? readVarint(bytes, starts[i], starts[i] + sizes[i]) : NONE;
         }
@@ -759,7 +759,7 @@ public final class RowFile {
         /** Whether a cell ends just where its numbers say. */
         boolean cellFits(int i) {
             int key = cellKey(i);
-            if (key < 0 || key > GREATEST_KEY) {
+            if (key < 0) {
                 return false;
             }
             if (!leaf) {
@@ -770,19 +770,18 @@ public final class RowFile {
             return sizes[i] == varintSize(length) + varintSize(key) + sizeInLeaf(length) + page;
         }
 
-        void copyRecord(int i, byte[] to, int size) {
-            if (!hasCell(i) || size < 0 || size > to.length) {
-                return;
-            }
-            int from = starts[i] + varintSize(recordLength(i)) + varintSize(cellKey(i));
-            if (from + size <= bytes.length) {
-                System.arraycopy(bytes, from, to, 0, size);
+        /** What a leaf's cell has of a record of this length, which is that of the cell. */
+        void copyRecord(int i, int length, byte[] to) {
+            int size = sizeInLeaf(length);
+            int page = length > WHOLE_RECORD ? 1 : 0;
+            if (hasCell(i) && size >= 0 && size <= to.length && size + page <= sizes[i]) {
+                System.arraycopy(bytes, starts[i] + sizes[i] - page - size, to, 0, size);
             }
         }
 
-        /** The first page of a cell's chain, 0 if it has none. */
-        int chainStart(int i) {
-            if (!hasCell(i) || recordLength(i) <= WHOLE_RECORD) {
+        /** The first page of the chain of a record of this length, 0 if it has none. */
+        int chainStart(int i, int length) {
+            if (!hasCell(i) || length <= WHOLE_RECORD) {
                 return 0;
             }
             return bytes[starts[i] + sizes[i] - 1] & 255;
@@ -1017,11 +1016,11 @@ public final class RowFile {
 
         /** Removes the row that was found. */
         void takeOut() {
-            int page = node.chainStart(slot);
-            int chained = chainPages(node.recordLength(slot));
+            int length = node.recordLength(slot);
+            int page = node.chainStart(slot, length);
             node.dropCell(slot);
             node.storeAll(pages, path[depth]);
-            for (int i = 0; i < chained; i++) {
+            for (int i = 0; i < chainPages(length); i++) {
                 int next = pages.get(page, 0);
                 pages.freePage(page);
                 page = next;
@@ -1210,7 +1209,7 @@ public final class RowFile {
 
         private boolean rowHolds(int cell) {
             int length = node.recordLength(cell);
-            if (length > RECORD_LIMIT || !chainHolds(node.chainStart(cell), length)) {
+            if (length > RECORD_LIMIT || !chainHolds(node.chainStart(cell, length), length)) {
                 return false;
             }
             row.read(file, node, cell);

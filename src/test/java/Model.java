@@ -280,6 +280,7 @@ final class Model {
       }
     }
     if (!knot.leaf) knot.children.add(readKnot(pages, page[2], met, false));
+    if (room(cells(knot)) > 60) throw new Bad();
     return knot;
   }
 

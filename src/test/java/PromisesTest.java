@@ -571,6 +571,13 @@ public final class PromisesTest {
     due("refused again", -1, file.open());
     file.spoil(1, 0, 83);
     due("as it must be", 2, file.open());
+    RowFile longest = new RowFile();
+    for (int i = 0; i < 300; i++) longest.blob(i % 100 != 0, 1, i);
+    longest.insert(1000000);
+    longest.commit();
+    longest.crash();
+    due("the longest row", 1, longest.open());
+    for (int i = 0; i < 300; i++) due("its byte " + i, i & 255, longest.value(1000000, i / 100, i % 100));
   }
 
   // Promise 12

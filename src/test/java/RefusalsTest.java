@@ -13,6 +13,7 @@ public final class RefusalsTest {
     recordsOfBlobs();
     recordHeads();
     chains();
+    pagesTwice();
     innerPages();
     innerKeys();
     emptyPages();
@@ -89,15 +90,24 @@ public final class RefusalsTest {
     return file;
   }
 
-  private static RowFile written(int[][] pages) {
-    RowFile file = new RowFile();
-    int chain = pages.length - 2;
-    int length = chain == 0 ? 0 : 16 + 63 * chain - 10;
+  /** Inserts a row with a chain of so many pages. */
+  private static void lengthen(RowFile file, int key, int chain) {
+    file.clear();
     for (int c = 0; c < 3; c++) {
       file.blob(false, 0, 0);
-      for (int i = 0; i < 100 && c * 100 + i < length - 5; i++) file.blob(true, 1, 1);
+      for (int i = 0; i < 100 && c * 100 + i < 63 * chain; i++) file.blob(true, 1, 1);
     }
-    if (chain > 0) file.insert(1);
+    file.insert(key);
+  }
+
+  /** A file of 2 to 12 pages, or of 24: then two pages are taken by the split for a third row. */
+  private static RowFile written(int[][] pages) {
+    RowFile file = new RowFile();
+    int left = pages.length == 24 ? 20 : pages.length - 2;
+    for (int key = 1; left > 0; key++) {
+      lengthen(file, key, Math.min(left, 5));
+      left -= 5;
+    }
     file.commit();
     file.crash();
     Due.due("the file has as many pages", pages.length, file.journal(3));
@@ -215,7 +225,18 @@ public final class RefusalsTest {
       link(f, 6, 5, 0, 0);
       link(f, 5, 7, 0, 0);
     });
+    opens("a list of all pages", 0, listed(24, 24));
+    opens("the 24th page is nowhere", -1, listed(24, 23));
     refused("a page that is nowhere", f -> leaf(f, 4, bytes(6, 130, 44, 2, 4, 0, 1, 17, 112)));
+  }
+
+  /** An empty root, the pages from 3 on in the list, up to one. */
+  private static int[][] listed(int pages, int end) {
+    int[][] file = new int[pages][64];
+    first(file, 3, end - 2, 2);
+    leaf(file, 2);
+    for (int p = 3; p < end; p++) link(file, p, p + 1, 0, 0);
+    return file;
   }
 
   private static void leafPages() {
@@ -238,6 +259,10 @@ public final class RefusalsTest {
     refused("a cell that the page cuts off", f -> leaf(f, 3, bytes(5, 5, 4, 8, 9, 1), bytes(4, 10, 2, 16, 7, 8)));
     opens("a leaf with 59 bytes", 3, almostFull(bytes(2, 3, 2, 8)));
     opens("a leaf with 60 bytes", 3, almostFull(bytes(2, 129, 3, 2, 8)));
+    int[][] over = one(6, 7, 2, 4, 0, 1, 17, 112);
+    leaf(over, 2, counted(21, 23, 5, 2, 54), counted(21, 23, 6, 2, 54), bytes(6, 7, 2, 4, 0, 1, 17, 112));
+    Due.due("the last place is its cell's first byte, too", 6, over[1][6]);
+    opens("a leaf with 61 bytes", -1, over);
   }
 
   /** Two cells of 27 bytes with their places, and a third one. */
@@ -372,6 +397,41 @@ public final class RefusalsTest {
       leaf(f, 4, counted(13, 134, 103, 20, 3, 129, 84));
       f[3][63] = 5;
     });
+  }
+
+  /** Pages that would be right in each of the two places where they are. */
+  private static void pagesTwice() {
+    opens("a page of a chain and of the list", -1, chainedAndFree(1));
+    opens("a page of a chain only", 1, chainedAndFree(0));
+    opens("a page of a chain and of the tree", -1, chainedInner(4));
+    opens("a page of a chain only, and one like it in the tree", 5, chainedInner(10));
+  }
+
+  /** A row of 25 bytes, whose page holds only zeros. */
+  private static int[][] chainedAndFree(int free) {
+    int[][] file = new int[3][64];
+    first(file, 3 * free, free, 2);
+    leaf(file, 2, counted(15, 25, 5, 2, 58));
+    file[1][63] = 3;
+    link(file, 3, 0, 0, 0);
+    return file;
+  }
+
+  /** The chain of the least row begins with a page that is like an inner page. */
+  private static int[][] chainedInner(int chain) {
+    int[][] file = new int[chain == 4 ? 9 : 10][64];
+    first(file, 0, 0, 2);
+    inner(file, 2, 6, bytes(3, 10));
+    leaf(file, 3, counted(14, 103, 10, 3, 129, 84));
+    file[2][63] = chain;
+    inner(file, 4, 9, bytes(8, 20));
+    inner(file, chain, 9, bytes(8, 20));
+    link(file, 5, 0, 77, 101);
+    inner(file, 6, 7, bytes(4, 30));
+    leaf(file, 7, bytes(2, 40, 2, 8));
+    leaf(file, 8, bytes(2, 20, 2, 8));
+    leaf(file, 9, bytes(2, 29, 2, 8), bytes(2, 30, 2, 8));
+    return file;
   }
 
   /** A blob's record, 16 bytes of it in the leaf, the others in a page of a chain. */
