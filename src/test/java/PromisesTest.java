@@ -577,6 +577,9 @@ public final class PromisesTest {
     longest.commit();
     longest.crash();
     due("the longest row", 1, longest.open());
+    longest.clear();
+    for (int i = 0; i < 300; i++) longest.blob(i % 100 != 0, 1, 9);
+    longest.insert(1);
     for (int i = 0; i < 300; i++) due("its byte " + i, i & 255, longest.value(1000000, i / 100, i % 100));
   }
 

@@ -405,6 +405,15 @@ public final class RefusalsTest {
     opens("a page of a chain only", 1, chainedAndFree(0));
     opens("a page of a chain and of the tree", -1, chainedInner(4));
     opens("a page of a chain only, and one like it in the tree", 5, chainedInner(10));
+    int[][] file = new int[3][64];
+    first(file, 0, 0, 2);
+    inner(file, 2, 3, bytes(3, 10));
+    leaf(file, 3, bytes(2, 5, 2, 8));
+    opens("a leaf that is child and LAST", -1, file);
+    leaf(file, 3, bytes(2, 20, 2, 8));
+    opens("a leaf that is LAST and child", -1, file);
+    inner(file, 2, 3, bytes(2, 10));
+    opens("a root that is its own child", -1, file);
   }
 
   /** A row of 25 bytes, whose page holds only zeros. */
