@@ -13,12 +13,15 @@ public final class RefusalsTest {
     recordsOfBlobs();
     recordHeads();
     chains();
+    chainLengths();
     pagesTwice();
     innerPages();
     innerKeys();
+    innerRoom();
     emptyPages();
     oddShapes();
     oddShapesAreUsed();
+    deepestTree();
     Due.end();
   }
 
@@ -90,23 +93,14 @@ public final class RefusalsTest {
     return file;
   }
 
-  /** Inserts a row with a chain of so many pages. */
-  private static void lengthen(RowFile file, int key, int chain) {
-    file.clear();
-    for (int c = 0; c < 3; c++) {
-      file.blob(false, 0, 0);
-      for (int i = 0; i < 100 && c * 100 + i < 63 * chain; i++) file.blob(true, 1, 1);
-    }
-    file.insert(key);
-  }
-
-  /** A file of 2 to 12 pages, or of 24: then two pages are taken by the split for a third row. */
+  /** A file of 2 to 24 pages. With more than 12, a third row splits the leaf, for which two pages are taken. */
   private static RowFile written(int[][] pages) {
     RowFile file = new RowFile();
-    int left = pages.length == 24 ? 20 : pages.length - 2;
-    for (int key = 1; left > 0; key++) {
-      lengthen(file, key, Math.min(left, 5));
-      left -= 5;
+    int split = pages.length > 12 ? 2 : 0;
+    int left = pages.length - 2 - split;
+    for (int key = 1; left > 0 || key <= 3 && split > 0; key++) {
+      Drafts.insert(file, Math.min(left, 5), key);
+      left -= Math.min(left, 5);
     }
     file.commit();
     file.crash();
@@ -399,6 +393,43 @@ public final class RefusalsTest {
     });
   }
 
+  /** Both sides of each length at which a chain has a page more. */
+  private static void chainLengths() {
+    int[] lengths = {25, 79, 80, 142, 143, 205, 206, 268, 269, 307};
+    int[] pages = {1, 1, 2, 2, 3, 3, 4, 4, 5, 5};
+    for (int i = 0; i < lengths.length; i++) {
+      String name = "a record of " + lengths[i];
+      int last = 2 + pages[i];
+      RowFile file = withFreePage(lengths[i]);
+      Due.due(name, 1, file.open());
+      file = withFreePage(lengths[i]);
+      Due.due(name + ": the free page behind it", last + 1, file.octet(1, 2, true));
+      file.spoil(1, 2, 0);
+      file.spoil(1, 3, 0);
+      file.spoil(last, 0, last + 1);
+      Due.due(name + " with a page too many", -1, file.open());
+      file = withFreePage(lengths[i]);
+      for (int at = 1; at < 64; at++) file.spoil(last, at, 0);
+      file.spoil(last, 0, last + 1);
+      file.spoil(1, 2, last);
+      file.spoil(1, 3, 2);
+      file.spoil(pages[i] == 1 ? 2 : last - 1, pages[i] == 1 ? 63 : 0, 0);
+      Due.due(name + " with a page too few", -1, file.open());
+    }
+  }
+
+  /** One row, and a free page that is the last one; the machine is down. */
+  private static RowFile withFreePage(int length) {
+    RowFile file = new RowFile();
+    Drafts.ofLength(file, length);
+    file.insert(5);
+    Drafts.insert(file, 1, 6);
+    file.remove(6);
+    file.commit();
+    file.crash();
+    return file;
+  }
+
   /** Pages that would be right in each of the two places where they are. */
   private static void pagesTwice() {
     opens("a page of a chain and of the list", -1, chainedAndFree(1));
@@ -505,6 +536,30 @@ public final class RefusalsTest {
     opens("not greater than the key of the cell before", -1, three);
   }
 
+  /** So many cells with a key of two bytes and of three in an inner ROOT, a row in each leaf. */
+  private static int[][] manyLeaves(int two, int three) {
+    int cells = two + three;
+    int[][] file = new int[cells + 3][64];
+    first(file, 0, 0, 2);
+    int[][] inner = new int[cells][];
+    for (int i = 0; i < cells; i++) {
+      inner[i] = i < two ? bytes(4 + i, 129, i) : bytes(4 + i, 134, 128, i);
+      int[] row = i < two ? bytes(2, 129, i, 2, 8) : bytes(2, 134, 128, i, 2, 8);
+      leaf(file, 4 + i, row);
+    }
+    inner(file, 2, 3, inner);
+    leaf(file, 3, bytes(2, 134, 128, 127, 2, 8));
+    return file;
+  }
+
+  private static void innerRoom() {
+    opens("an inner page with 59 bytes", 14, manyLeaves(6, 7));
+    opens("an inner page with 60 bytes", 14, manyLeaves(5, 8));
+    int[][] over = manyLeaves(4, 9);
+    Due.due("the last place is its cell's child, too", 16, over[1][16]);
+    opens("an inner page with 61 bytes", -1, over);
+  }
+
   private static void emptyPages() {
     refused("an empty leaf below", f -> leaf(f, 3));
     int[][] file = new int[4][64];
@@ -593,5 +648,38 @@ public final class RefusalsTest {
     Due.due("commit", 6, file.commit());
     file.crash();
     Due.due("opened again", 1, file.open());
+  }
+
+  /** Eleven inner pages, each with one leaf as child and the next one as LAST: with page 1 and twelve leaves, 24 pages. */
+  private static void deepestTree() {
+    int[][] pages = new int[24][64];
+    first(pages, 0, 0, 2);
+    for (int level = 0; level < 11; level++) {
+      int below = level < 10 ? 3 + level : 24;
+      inner(pages, 2 + level, below, bytes(13 + level, 10 * level + 10));
+      leaf(pages, 13 + level, bytes(2, 10 * level + 10, 2, 8));
+    }
+    leaf(pages, 24, bytes(2, 119, 2, 8));
+    opens("the deepest tree", 12, pages);
+    RowFile file = written(pages);
+    file.open();
+    for (int i = 0; i < 11; i++) Due.due("key " + i, 10 * i + 10, file.key(i));
+    Due.due("the greatest key", 119, file.key(11));
+    Drafts.number(file, 0);
+    for (int key = 111; key <= 122; key++) file.insert(key);
+    Due.due("the lowest leaf is full", 12, file.octet(24, 1, false));
+    Due.due("it can't be split", -2, file.insert(123));
+    Due.due("the highest leaf is removed", 1, file.remove(10));
+    Due.due("ROOT gets all that its LAST has", 14, file.octet(2, 62, false));
+    Due.due("two pages are free", 2, file.octet(1, 3, false));
+    Due.due("now it can be split", 1, file.insert(123));
+    Due.due("by one page", 1, file.octet(1, 3, false));
+    int rows = file.rows();
+    file.commit();
+    file.crash();
+    Due.due("it can be opened", rows, file.open());
+    for (int i = 0; i < rows; i++) Due.due("remove", 1, file.remove(file.key(rows - 1 - i)));
+    Due.due("ROOT is an empty leaf", 13, file.octet(2, 0, false));
+    Due.due("all others are free", 22, file.octet(1, 3, false));
   }
 }
