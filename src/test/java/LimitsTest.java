@@ -18,6 +18,7 @@ public final class LimitsTest {
     roomOfInnerPage();
     wholeRecords();
     chains();
+    chainsBehindLongerOnes();
     keysLeadToChildOrLast();
     firstFreePage();
     splitsUpToRoot();
@@ -418,6 +419,23 @@ public final class LimitsTest {
     }
   }
 
+  /** Bytes of which nothing is said are 0, whatever row was there before. */
+  private static void chainsBehindLongerOnes() {
+    for (int length : new int[] {25, 78, 80, 142}) {
+      RowFile file = new RowFile();
+      Drafts.insert(file, 5, 1);
+      file.remove(1);
+      Drafts.ofLength(file, length);
+      file.insert(2);
+      int pages = length <= 79 ? 1 : 2;
+      Due.due("the first page", 7, file.octet(2, 63, false));
+      bytes("the next page", file, 7, 0, pages == 1 ? 0 : 6);
+      zeros("behind the record", file, 8 - pages, length - 16 - 63 * (pages - 1) + 1, 63);
+      zeros("ahead of the cell", file, 2, 5, length < 128 ? 44 : 43);
+      canBeOpened("behind a longer one, a record of " + length, file);
+    }
+  }
+
   // "at an inner page to the child of the first cell whose key is not less, else to LAST"
   private static void keysLeadToChildOrLast() {
     RowFile file = whole(10, 20, 40);
@@ -617,6 +635,23 @@ public final class LimitsTest {
     Drafts.insert(file, 2, 6);
     file.remove(6);
     Due.due("page 1 and two new ones, and none of the rows", 3, file.commit());
+    RowFile first = new RowFile();
+    Drafts.insert(first, 1, 1);
+    Drafts.insert(first, 1, 2);
+    first.remove(1);
+    first.remove(2);
+    first.commit();
+    Drafts.insert(first, 1, 1);
+    Drafts.insert(first, 1, 2);
+    first.remove(1);
+    first.remove(2);
+    Due.due("page 1 and two, of which the first byte is another one", 3, first.commit());
+    RowFile last = one(5, 6);
+    last.commit();
+    last.remove(5);
+    Drafts.number(last, 7);
+    last.insert(5);
+    Due.due("page 1 and one, of which the last byte is another one", 2, last.commit());
   }
 
   // "CHANGES is one more (0 behind 65535)"
@@ -675,8 +710,20 @@ public final class LimitsTest {
       Due.due("PAGES as they were", k < 50 ? 24 : 0, file.journal(1));
       Due.due("the last page is written", 0, file.octet(24, 1, true));
       if (k < 50) Due.due("open", rows, file.open());
-      else Due.due("no rows", 0, file.rows());
+      else recordsOfEarlierCommit(file);
     }
+  }
+
+  /** The journal had all pages; in the next commit it has two. */
+  private static void recordsOfEarlierCommit(RowFile file) {
+    Due.due("no rows", 0, file.rows());
+    String before = Seen.now(file);
+    Drafts.insert(file, 0, 5);
+    file.arm(5);
+    Due.due("goes down", -3, file.commit());
+    Due.due("two records", 2, file.journal(2));
+    Due.due("open", 0, file.open());
+    Due.same("no other page comes back", before, Seen.now(file));
   }
 
   // "If the machine is ARMED with 0 at a write, it goes down .. otherwise the number, if it is armed, is one less."

@@ -428,8 +428,12 @@ final class Model {
   }
 
   int depth() {
+    return depth(now.root);
+  }
+
+  private static int depth(Knot knot) {
     int depth = 0;
-    for (Knot knot = now.root; !knot.leaf; knot = knot.children.get(0)) depth++;
+    for (Knot child : knot.children) depth = Math.max(depth, 1 + depth(child));
     return depth;
   }
 
@@ -606,10 +610,14 @@ final class Model {
 
   // ---- other files that may be as they must be ----
 
-  /** The same rows with the pages numbered anew and the inner pages' keys moved; null if the disk has no right file. */
+  /**
+   * The same rows with other inner pages above their leaves, the pages numbered anew and the inner pages' keys moved;
+   * null if the disk has no right file.
+   */
   static List<byte[]> variant(List<byte[]> disk, Random random) {
     State state = stateOf(disk);
     if (state == null) return null;
+    if (random.nextBoolean()) reshape(state, random);
     List<Integer> numbers = new ArrayList<>();
     for (int p = 2; p <= state.pages; p++) numbers.add(p);
     java.util.Collections.shuffle(numbers, random);
@@ -619,6 +627,45 @@ final class Model {
     state.free = free;
     renumber(state.root, numbers, random);
     return pagesOf(state);
+  }
+
+  /** Inner pages are taken from the free ones and given back; if some tries need too many, all stays as it is. */
+  private static void reshape(State state, Random random) {
+    List<Knot> leaves = new ArrayList<>();
+    List<Integer> inner = new ArrayList<>();
+    gather(state.root, leaves, inner);
+    for (int i = 0; i < 20; i++) {
+      Deque<Integer> pages = new ArrayDeque<>(state.free);
+      pages.addAll(inner);
+      try {
+        state.root = build(leaves, pages, random);
+        state.free = pages;
+        return;
+      } catch (Bad bad) {
+        continue;
+      }
+    }
+  }
+
+  private static void gather(Knot knot, List<Knot> leaves, List<Integer> inner) {
+    if (knot.leaf) leaves.add(knot);
+    else inner.add(knot.page);
+    for (Knot child : knot.children) gather(child, leaves, inner);
+  }
+
+  private static Knot build(List<Knot> leaves, Deque<Integer> pages, Random random) {
+    if (leaves.size() == 1) return leaves.get(0);
+    if (pages.isEmpty()) throw new Bad();
+    Knot knot = new Knot(pages.pop(), false);
+    int most = random.nextBoolean() ? 2 : Math.min(leaves.size(), 13);
+    int from = 0;
+    for (int left = 2 + random.nextInt(most - 1); left > 0; left--) {
+      int end = left == 1 ? leaves.size() : from + 1 + random.nextInt(leaves.size() - from - left + 1);
+      knot.children.add(build(leaves.subList(from, end), pages, random));
+      if (left > 1) knot.keys.add(greatest(knot.children.get(knot.children.size() - 1)));
+      from = end;
+    }
+    return knot;
   }
 
   private static void renumber(Knot knot, List<Integer> numbers, Random random) {

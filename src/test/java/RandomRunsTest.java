@@ -34,7 +34,7 @@ public final class RandomRunsTest {
     System.out.println("opened " + opened + ", refused " + refused + ", full " + full + ", went down " + wentDown
         + ", deepest " + deepest);
     Due.due("all kinds of runs were met", true,
-        opened > 1000 && refused > 500 && full > 100 && wentDown > 1000 && deepest > 1);
+        opened > 1000 && refused > 500 && full > 100 && wentDown > 1000 && deepest > 4);
     Due.end();
   }
 

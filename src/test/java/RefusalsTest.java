@@ -7,6 +7,7 @@ public final class RefusalsTest {
     firstPage();
     list();
     leafPages();
+    leafThatIsRoot();
     keysOfLeaves();
     varints();
     recordsOfNumbers();
@@ -257,6 +258,36 @@ public final class RefusalsTest {
     leaf(over, 2, counted(21, 23, 5, 2, 54), counted(21, 23, 6, 2, 54), bytes(6, 7, 2, 4, 0, 1, 17, 112));
     Due.due("the last place is its cell's first byte, too", 6, over[1][6]);
     opens("a leaf with 61 bytes", -1, over);
+  }
+
+  /** ROOT may have no cells: then every byte but the first must be 0. */
+  private static void leafThatIsRoot() {
+    int[][] file = one(2, 5, 2, 8);
+    opens("one row", 1, file);
+    for (int at : new int[] {2, 3, 5, 59}) {
+      int[][] other = one(2, 5, 2, 8);
+      other[1][at] = 1;
+      opens("one row, byte " + at, -1, other);
+    }
+    for (int count : new int[] {0, 2, 30, 31, 255}) {
+      int[][] other = one(2, 5, 2, 8);
+      other[1][1] = count;
+      opens("one row, " + count + " cells", -1, other);
+    }
+    for (int at = 0; at < 64; at++) {
+      int[][] empty = one(2, 5, 2, 8);
+      leaf(empty, 2);
+      if (at > 0) empty[1][at] = 1;
+      opens(at == 0 ? "no rows" : "no rows, byte " + at, at == 0 ? 0 : -1, empty);
+    }
+    for (int mark : new int[] {0, 5, 12, 14, 255}) {
+      int[][] other = one(2, 5, 2, 8);
+      other[1][0] = mark;
+      opens("one row, a leaf with " + mark, -1, other);
+      leaf(other, 2);
+      other[1][0] = mark;
+      opens("no rows, a leaf with " + mark, -1, other);
+    }
   }
 
   /** Two cells of 27 bytes with their places, and a third one. */
@@ -614,6 +645,12 @@ public final class RefusalsTest {
     leaf(moved, 4, bytes(2, 10, 2, 8));
     link(moved, 2, 3, 0, 0);
     opens("ROOT is not page 2", 1, moved);
+    first(moved, 3, 1, 4);
+    link(moved, 2, 0, 0, 0);
+    opens("page 2 is nowhere", -1, moved);
+    first(moved, 3, 2, 4);
+    link(moved, 3, 2, 0, 0);
+    opens("page 2 is the last of the list", 1, moved);
   }
 
   private static void oddShapesAreUsed() {
@@ -650,18 +687,25 @@ public final class RefusalsTest {
     Due.due("opened again", 1, file.open());
   }
 
-  /** Eleven inner pages, each with one leaf as child and the next one as LAST: with page 1 and twelve leaves, 24 pages. */
-  private static void deepestTree() {
+  /** Eleven inner pages, each with a leaf and the next one, which is LAST or not: with page 1, 24 pages. */
+  private static int[][] deepest(boolean byLast) {
     int[][] pages = new int[24][64];
     first(pages, 0, 0, 2);
     for (int level = 0; level < 11; level++) {
       int below = level < 10 ? 3 + level : 24;
-      inner(pages, 2 + level, below, bytes(13 + level, 10 * level + 10));
-      leaf(pages, 13 + level, bytes(2, 10 * level + 10, 2, 8));
+      int leafKey = byLast ? 10 * level + 10 : 120 - 10 * level;
+      if (byLast) inner(pages, 2 + level, below, bytes(13 + level, leafKey));
+      else inner(pages, 2 + level, 13 + level, bytes(below, leafKey - 1));
+      leaf(pages, 13 + level, bytes(2, leafKey, 2, 8));
     }
-    leaf(pages, 24, bytes(2, 119, 2, 8));
-    opens("the deepest tree", 12, pages);
-    RowFile file = written(pages);
+    leaf(pages, 24, bytes(2, byLast ? 119 : 1, 2, 8));
+    return pages;
+  }
+
+  private static void deepestTree() {
+    opens("the deepest tree", 12, deepest(true));
+    opens("the deepest tree by children", 12, deepest(false));
+    RowFile file = written(deepest(true));
     file.open();
     for (int i = 0; i < 11; i++) Due.due("key " + i, 10 * i + 10, file.key(i));
     Due.due("the greatest key", 119, file.key(11));
@@ -681,5 +725,27 @@ public final class RefusalsTest {
     for (int i = 0; i < rows; i++) Due.due("remove", 1, file.remove(file.key(rows - 1 - i)));
     Due.due("ROOT is an empty leaf", 13, file.octet(2, 0, false));
     Due.due("all others are free", 22, file.octet(1, 3, false));
+    for (int level = 1; level <= 10; level++) {
+      removeAt(level, true);
+      removeAt(level, false);
+    }
+  }
+
+  /** The leaf of an inner page below ROOT is removed: what leads to that page leads to what is left. */
+  private static void removeAt(int level, boolean byLast) {
+    RowFile file = written(deepest(byLast));
+    file.open();
+    int inner = 2 + level;
+    int left = level < 10 ? inner + 1 : 24;
+    Due.due("remove", 1, file.remove(byLast ? 10 * level + 10 : 120 - 10 * level));
+    Due.due("what leads to it", left, file.octet(inner - 1, byLast ? 2 : 62, false));
+    Due.due("what does not", 12 + level, file.octet(inner - 1, byLast ? 62 : 2, false));
+    Due.due("its key stays", byLast ? 10 * level : 129 - 10 * level, file.octet(inner - 1, 63, false));
+    Due.due("it is the first free page", inner, file.octet(1, 2, false));
+    Due.due("the leaf is the next one", 13 + level, file.octet(inner, 0, false));
+    Due.due("and the last one", 0, file.octet(13 + level, 0, false));
+    Due.due("four pages are different", 4, file.commit());
+    file.crash();
+    Due.due("it can be opened", 11, file.open());
   }
 }

@@ -28,6 +28,7 @@ public final class RefusedCallsTest {
     removeNone();
     commitNothing();
     undoNothing();
+    crashTwice();
     armNumbers();
     openWhileUp();
     openRefused();
@@ -536,6 +537,26 @@ public final class RefusedCallsTest {
     file.remove(7);
     Due.due("nine writes were left, six are done", -3, file.commit());
     Due.due("at the fourth one", 1, file.journal(0));
+  }
+
+  // ---- Promise 9: "The machine goes down. False if it is." ----
+
+  private static void crashTwice() {
+    isTrue("a new file", RefusedCallsTest::fresh, f -> f.crash());
+    isTrue("a busy one", RefusedCallsTest::busy, f -> f.crash());
+    isTrue("opened just now", RefusedCallsTest::reopened, f -> f.crash());
+    onDownStates(state -> isFalse("down", state, f -> f.crash()));
+    RowFile file = new RowFile();
+    busy(file);
+    RowFile armedWithNone = new RowFile();
+    busy(armedWithNone);
+    file.arm(0);
+    armedWithNone.arm(60);
+    file.crash();
+    armedWithNone.crash();
+    Due.due("no page is seen now", -1, file.octet(1, 0, false));
+    Due.same("the disk", Seen.now(armedWithNone), Seen.now(file));
+    Due.same("it is not armed then", Seen.later(armedWithNone), Seen.later(file));
   }
 
   // ---- Promise 10: "False if it is down, or k is not 0 .. 60." ----
