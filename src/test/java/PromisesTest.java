@@ -626,7 +626,8 @@ public final class PromisesTest {
   // Promises 15 and 16
   private static void columnsAndCodes() {
     long[] numbers = {0, 1, 2, -1, 127, -128, 128, -129, 32767, -32768, 32768, -32769,
-      Integer.MAX_VALUE, Integer.MIN_VALUE, Integer.MAX_VALUE + 1L, Integer.MIN_VALUE - 1L, Long.MAX_VALUE, Long.MIN_VALUE};
+      Integer.MAX_VALUE, Integer.MIN_VALUE, Integer.MAX_VALUE + 1L, Integer.MIN_VALUE - 1L, Long.MAX_VALUE,
+      Long.MIN_VALUE};
     int[] codes = {8, 9, 1, 1, 1, 1, 2, 2, 2, 2, 4, 4, 4, 4, 6, 6, 6, 6};
     for (int i = 0; i < numbers.length; i++) {
       RowFile file = withNumber(numbers[i]);

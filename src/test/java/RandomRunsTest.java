@@ -5,6 +5,7 @@ import java.util.Random;
 public final class RandomRunsTest {
   private static final int RUNS = 600;
   private static final int CALLS = 300;
+  private static final int[] NO_KEYS = {-1, 1000001, Integer.MIN_VALUE, Integer.MAX_VALUE};
   private static final long[] NUMBERS = {
     0, 1, 2, -1, 127, 128, -128, -129, 32767, 32768, -32768, -32769, Integer.MAX_VALUE, Integer.MIN_VALUE,
     Integer.MAX_VALUE + 1L, Integer.MIN_VALUE - 1L, Long.MAX_VALUE, Long.MIN_VALUE
@@ -50,7 +51,7 @@ public final class RandomRunsTest {
   private int someKey() {
     List<Integer> keys = model.keys();
     if (!keys.isEmpty() && random.nextInt(3) == 0) return keys.get(random.nextInt(keys.size()));
-    if (random.nextInt(40) == 0) return new int[] {-1, 1000001, Integer.MIN_VALUE, Integer.MAX_VALUE}[random.nextInt(4)];
+    if (random.nextInt(40) == 0) return NO_KEYS[random.nextInt(NO_KEYS.length)];
     return random.nextInt(10) == 0 ? 1000000 : random.nextInt(keySpan);
   }
 
@@ -91,7 +92,8 @@ public final class RandomRunsTest {
     int columns = 1 + random.nextInt(4);
     for (int c = 0; c < columns; c++) {
       if (random.nextBoolean()) {
-        long v = random.nextInt(3) == 0 ? random.nextLong() >> random.nextInt(64) : NUMBERS[random.nextInt(NUMBERS.length)];
+        boolean any = random.nextInt(3) == 0;
+        long v = any ? random.nextLong() >> random.nextInt(64) : NUMBERS[random.nextInt(NUMBERS.length)];
         Due.due(name + " number " + v, model.number(v), file.number(v));
       } else {
         blob(false, random.nextInt(9));
