@@ -650,6 +650,13 @@ public final class PromisesTest {
     due("code, column 2", -1, file.code(1, 2));
     due("code, column -1", -1, file.code(1, -1));
     due("code of none", -1, file.code(0, 0));
+    RowFile mixed = withBlob(3);
+    mixed.number(0);
+    mixed.number(70000);
+    mixed.insert(1);
+    due("code of a blob", 18, mixed.code(1, 0));
+    due("code of the next column", 8, mixed.code(1, 1));
+    due("code of the last column", 4, mixed.code(1, 2));
     file.commit();
     file.crash();
     due("columns, down", -1, file.columns(1));

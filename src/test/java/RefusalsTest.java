@@ -385,6 +385,9 @@ public final class RefusalsTest {
     opens("two columns", 1, one(3, 5, 3, 8, 9));
     opens("three", 1, one(4, 5, 4, 8, 9, 12));
     opens("four", -1, one(5, 5, 5, 8, 9, 12, 8));
+    opens("four, the last one's code where a value would end", -1, one(5, 5, 5, 8, 9, 14, 8));
+    opens("three, the same bytes with a head less", 1, one(5, 5, 4, 8, 9, 14, 8));
+    opens("a blob longer than the record, and no code behind it", -1, one(3, 5, 3, 20, 3));
     opens("a head that cuts a code", -1, one(3, 5, 2, 129, 84));
     opens("length too short for the cell", -1, one(2, 5, 3, 8, 9));
     opens("length too long for the cell", -1, one(4, 5, 3, 8, 9));

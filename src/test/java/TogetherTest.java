@@ -9,6 +9,7 @@ public final class TogetherTest {
     keysOfInnerPagesStay();
     twoObjects();
     lastOf512Calls();
+    exampleOfReadme();
     Due.end();
   }
 
@@ -203,5 +204,21 @@ public final class TogetherTest {
     Due.due("510", 1000000, file.key(0));
     Due.due("511", 168 + 1, file.octet(1, 5, false));
     Due.due("512", -7, file.value(1000000, 0, 0));
+  }
+
+  private static void exampleOfReadme() {
+    RowFile file = new RowFile();
+    file.number(42);
+    file.blob(false, 3, 0x616263);
+    file.blob(true, 2, 0x6465);
+    Due.due("insert", 1, file.insert(7));
+    file.clear();
+    Due.due("the number", 42, file.value(7, 0, 0));
+    Due.due("a byte of the blob", 0x65, file.value(7, 1, 4));
+    Due.due("pages that were different", 2, file.commit());
+    file.arm(2);
+    file.remove(7);
+    Due.due("the third write", RowFile.DOWN, file.commit());
+    Due.due("the row is there again", 1, file.open());
   }
 }
